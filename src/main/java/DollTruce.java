@@ -703,7 +703,7 @@ public final class DollTruce {
             int length = Math.min(textLength, bytes.length);
             int at = 0;
             size = 0;
-            while (at < length) {
+            for (int steps = 0; steps < MOST_BYTES && at < length; steps++) {
                 int sign = bytes[at];
                 if (sign == 10 || sign == 32) {
                     at++;
