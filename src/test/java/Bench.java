@@ -49,6 +49,15 @@ final class Bench {
     }
 
     static int tell(DollTruce x, byte[] text) {
+        feed(x, text);
+        return x.text(text.length);
+    }
+
+    static void feed(DollTruce x, String text) {
+        feed(x, text.getBytes(StandardCharsets.ISO_8859_1));
+    }
+
+    private static void feed(DollTruce x, byte[] text) {
         for (int from = 0; from < text.length; from += 20) {
             byte[] part = Arrays.copyOf(Arrays.copyOfRange(text, from, Math.min(text.length, from + 20)), 20);
             int[] words = new int[5];
@@ -57,7 +66,6 @@ final class Bench {
             }
             x.feed(words[0], words[1], words[2], words[3], words[4]);
         }
-        return x.text(text.length);
     }
 
     static DollTruce of(String text) {

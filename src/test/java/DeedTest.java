@@ -85,6 +85,9 @@ public final class DeedTest {
         DollTruce y = Bench.of("nurse a east 0;doll p a 7 1;moth 100;");
         y.go(1);
         bench.due("untold tea is 5", y.tea(0), 2);
+        DollTruce one = Bench.of("nurse a east 0;doll p a 1 1;moth 100;");
+        one.go(1);
+        bench.due("anger of 1", one.tea(0), 0);
         DollTruce z = Bench.of("nurse a east 0;doll p a 7 1;moth 100;tea 0;");
         z.go(1);
         bench.due("tea 0", z.tea(0), 7);
@@ -147,6 +150,28 @@ public final class DeedTest {
         bench.due("the latest 20 of 27 are undone: 0", y.doll(0, 4), 6);
         bench.due("the latest 20 of 27 are undone: 1", y.doll(1, 4), 7);
         bench.due("the latest 20 of 27 are undone: 2", y.doll(2, 4), 7);
+        ofManyKinds();
+    }
+
+    private static void ofManyKinds() {
+        DollTruce x = Bench.of(TEXT.replace("tea 6", "tea 1"));
+        x.go(9);
+        for (int i = 0; i < 6; i++) {
+            x.mend(0);
+            x.give(1, i % 2 == 0 ? 2 : 1);
+            x.tea(0);
+            x.tea(1);
+        }
+        x.exchange(0, 1);
+        for (int left = 19; left >= 0; left--) {
+            bench.due("undo of many kinds down to " + left, x.undo(), left);
+        }
+        // of the 25 the first five stay: 0 mended twice, 1 given once, a tea from each
+        bench.due("held again", x.count(4), 3);
+        bench.due("mended twice", x.doll(0, 4), 7);
+        bench.due("given once", x.doll(1, 0), 2);
+        bench.due("a tea for west", x.city(1, 0), 44);
+        bench.due("a tea for east", x.city(0, 0), 62);
     }
 
     private static void undoingEndsWithAWeek() {

@@ -43,6 +43,9 @@ public final class ListTest {
         bench.due("then the last one", x.worst(), 2);
         x.mend(2);
         bench.due("none that is held", x.worst(), -2);
+        DollTruce all = Bench.of("nurse a east 0;doll p a 0 1;doll q a 0 1;moth 100;");
+        all.go(2);
+        bench.due("the first of all", all.worst(), 0);
     }
 
     private static void safestNurse() {

@@ -64,6 +64,13 @@ public final class NoteTest {
         bench.due("the first three", x.cares(1), 7);
         x.known(0);
         bench.due("by none of them", x.cares(1), all);
+        DollTruce y = Bench.of(TEXT);
+        y.note(1, 0, 0, true);
+        y.note(1, 0, 9, true);
+        Bench.tell(y, TEXT);
+        y.note(1, 0, 9, true);
+        y.out(0);
+        bench.due("of notes ahead of the text nothing is left", y.cares(1), all);
     }
 
     private static void knowing() {

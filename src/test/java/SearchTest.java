@@ -88,6 +88,10 @@ public final class SearchTest {
             Bench.of("nurse b west 0;nurse c west 0;nurse d west 9;doll q d 4 20;moth 40;").nursing(1, 5, 0), 0);
         bench.due("of like care the first nurse",
             Bench.of("nurse b west 0;nurse c west 6;nurse d west 6;doll q d 4 20;moth 80;").nursing(1, 5, 0), 1);
+        bench.due("of likes with anger the first nurse",
+            Bench.of("nurse b west 1;nurse c west 2;nurse d west 0;doll q c 4 20;moth 100;").nursing(1, 5, 0), 0);
+        bench.due("of two with like care the first",
+            Bench.of("nurse b west 3;nurse c west 3;doll q c 4 20;moth 100;").nursing(1, 5, 0), 0);
         bench.due("n 0", x.nursing(0, 0, 0), -1);
         bench.due("n 21", x.nursing(0, 21, 0), -1);
         bench.due("n 20", x.nursing(0, 20, 0), 0);
@@ -188,6 +192,9 @@ public final class SearchTest {
         DollTruce odd = Bench.of("nurse a east 0;doll p a 5 10;moth 1;");
         bench.due("99 to the 6", odd.whole(0, 6, 0), 941480149401L);
         bench.due("100 to the 6", odd.whole(0, 6, 1), 1000000000000L);
+        DollTruce two = Bench.of("nurse a east 0;doll p a 5 10;moth 2;");
+        bench.due("98 of 100", two.whole(0, 1, 0), 49);
+        bench.due("98 of 100, below", two.whole(0, 1, 1), 50);
         DollTruce never = Bench.of("nurse a east 0;doll p a 5 10;law moths 200;");
         bench.due("never", never.whole(0, 3, 0), 0);
         bench.due("never, below", never.whole(0, 3, 1), 1);

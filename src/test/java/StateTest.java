@@ -232,6 +232,8 @@ public final class StateTest {
         bench.due("0 times", value("0*" + far), 0);
         bench.due("times below 0", value(far + "*(0-1)"), -1000000000000L);
         bench.due("times 2", value(far + "*2"), error);
+        bench.due("two to the 64 doesn't wrap around to 0", value("(8192*8*8192*8)*(8192*8*8192*8)"), error);
+        bench.due("nor below", value("(8192*8*8192*8)*(0-8192*8*8192*8)"), error);
         bench.due("1000001*1000000", value("(1000*1000+1)*(1000*1000)"), error);
         bench.due("1000001*999999", value("(1000*1000+1)*(1000*1000-1)"), 999999999999L);
         DollTruce x = Bench.of("nurse a east 0;nurse b west 0;doll p a 5 1;doll q b 3 1;law moths 100*(week=0 and love=5);"

@@ -6,7 +6,9 @@ public final class TextTest {
         newObject();
         feeding();
         telling();
+        bytesBehindTheText();
         whatATextMakesNew();
+        textsBehindTexts();
         tokens();
         tooMuch();
         toldAlready();
@@ -27,6 +29,8 @@ public final class TextTest {
         bench.due("new go(99)", x.go(99), 99);
         bench.due("new city(0, 0)", x.city(0, 0), 0);
         bench.due("new tea(0)", x.tea(0), -2);
+        bench.due("new back()", x.back(), -1);
+        bench.due("new undo()", x.undo(), -1);
         bench.due("new doll", Bench.thrownByDoll(x, 0, 0), 1);
         bench.due("new nurse(0, 0)", x.nurse(0, 0), -1);
         bench.due("NONE", DollTruce.NONE, -1);
@@ -77,6 +81,57 @@ public final class TextTest {
         bench.due("no fault", x.text(0), 0);
         bench.due("fault(0) then", x.fault(0), 0);
         bench.due("fault(1) then", x.fault(1), -1);
+    }
+
+    /** What stands on the tape behind the text's length is no part of its last token. */
+    private static void bytesBehindTheText() {
+        DollTruce x = new DollTruce();
+        cutDue(x, "moths 5;", 4, 1, 4);
+        cutDue(x, "nurse abcdefg", 12, 1, 12);
+        cutDue(x, "moth 1000", 8, 1, 8);
+        cutDue(x, "moth 1000", 6, 1, 6);
+        cutDue(x, "law calm 1<=2;", 11, 1, 11);
+        cutDue(x, "law calm 1<=2;", 12, 1, 12);
+        byte[] signs = new byte[700];
+        java.util.Arrays.fill(signs, (byte) ';');
+        bench.due("700 tokens", Bench.tell(x, signs), -1);
+        bench.due("their fault", x.fault(1), 0);
+        byte[] spaces = new byte[700];
+        java.util.Arrays.fill(spaces, (byte) ' ');
+        byte[] line = "moth 7".getBytes();
+        System.arraycopy(line, 0, spaces, 0, line.length);
+        bench.due("the end of a full tape", Bench.tell(x, spaces), -1);
+        bench.due("its place", x.fault(1), 700);
+    }
+
+    private static void cutDue(DollTruce x, String tape, int n, int fault, int place) {
+        Bench.tell(x, "");
+        Bench.feed(x, tape);
+        bench.due("text(" + n + ") of " + tape, x.text(n), -1);
+        bench.due("fault(0) of " + n + " of " + tape, x.fault(0), fault);
+        bench.due("fault(1) of " + n + " of " + tape, x.fault(1), place);
+    }
+
+    /** Nothing of a text, with a fault or without, is left for the next one. */
+    private static void textsBehindTexts() {
+        DollTruce x = Bench.of("nurse a east 1;nurse b west 1;doll p a 5 1;doll q b 4 1;moth 9;breach 9;tea 9;seed 9;"
+            + "law moths 1+2;law angry 3;law calm 4;");
+        x.go(4);
+        String turned = "nurse a west 1;nurse b east 1;doll p a 5 1;doll q b 4 1;doll r b 4 1;moth 8;breach 8;tea 8;seed 8;"
+            + "law moths 7;law angry 8;law calm 9;";
+        bench.due("a fault with open signs", Bench.tell(x, "law calm ((not 1+(2*"), -1);
+        bench.due("turned", Bench.tell(x, turned), 12);
+        bench.due("law(0, 0)", x.law(0, 0), 7);
+        bench.due("law(1, 0)", x.law(1, 0), 8);
+        bench.due("law(2, 0)", x.law(2, 0), 9);
+        bench.due("knots", x.count(2), 3);
+        bench.due("held by east", x.city(0, 2), 6);
+        bench.due("held by west", x.city(1, 2), 1);
+        bench.due("not fond", x.doll(1, 5), 0);
+        bench.due("a fault behind signs that wait", Bench.tell(x, "law calm 1 or 2 and not 3<4+5*"), -1);
+        bench.due("a fault behind open ones", Bench.tell(x, "law calm (((((((("), -1);
+        bench.due("turned again", Bench.tell(x, turned.replace("law moths 7", "law moths ((((((((1<2))))))))")), 12);
+        bench.due("law(0, 0) again", x.law(0, 0), 1);
     }
 
     private static void whatATextMakesNew() {
@@ -244,6 +299,9 @@ public final class TextTest {
         bench.faultDue("law moths 1 < > 2;", 1, 14);
         bench.faultDue("law moths 1 == 2;", 1, 13);
         bench.faultDue("law moths 1 <", 1, 13);
+        bench.faultDue("law moths 1<=", 1, 13);
+        bench.faultDue("law moths 1<>", 1, 13);
+        bench.faultDue("law moths 1>=", 1, 13);
         bench.faultDue("law moths (1;", 1, 12);
         bench.faultDue("law moths (1", 1, 12);
         bench.faultDue("law moths 1);", 1, 11);

@@ -52,6 +52,9 @@ public final class WeekTest {
         y.go(1);
         bench.due("7 is", y.doll(0, 4), 1);
         bench.due("96 isn't", y.doll(1, 4), 1);
+        DollTruce least = Bench.of(TWO + "moth 1;");
+        least.go(1);
+        bench.due("0 is below 1", least.doll(0, 4), 1);
         DollTruce z = Bench.of(TWO + "seed 4;moth 18;");
         z.go(1);
         bench.due("17 is below 18", z.doll(0, 4), 1);
@@ -60,7 +63,9 @@ public final class WeekTest {
     private static void noNumbersForSureOnes() {
         String three = "nurse a east 0;nurse b west 0;doll p a 5 10;doll q b 4 20;doll r b 3 20;";
         DollTruce x = Bench.of(three + "law moths 60*(love=3)+100*(love=5);");
-        x.go(2);
+        x.go(1);
+        bench.due("0 for the third alone", x.doll(2, 4), 1);
+        x.go(1);
         bench.due("100: moths come", x.doll(0, 4), 2);
         bench.due("0: none come", x.doll(1, 4), 0);
         bench.due("0, 68 for the third alone", x.doll(2, 4), 1);
