@@ -62,6 +62,14 @@ public final class SearchTest {
         x.exchange(3, 2);
         bench.due("without s at home", x.enough(0, 6), 1 + 2);
         bench.due("r at home", x.enough(1, 1), -2);
+        StringBuilder ten = new StringBuilder("nurse a west 0;");
+        for (char c = 'a'; c < 'k'; c++) {
+            ten.append("doll ").append(c).append(" a 9 1;");
+        }
+        DollTruce all = Bench.of(ten.toString());
+        bench.due("all ten", all.enough(1, 90), 1023);
+        bench.due("nine", all.enough(1, 81), 511);
+        bench.due("more than ten", all.enough(1, 91), -2);
     }
 
     private static void nursings() {

@@ -55,6 +55,7 @@ public final class WeekTest {
         DollTruce least = Bench.of(TWO + "moth 1;");
         least.go(1);
         bench.due("0 is below 1", least.doll(0, 4), 1);
+        bench.due("68 isn't below 1", least.doll(1, 4), 0);
         DollTruce z = Bench.of(TWO + "seed 4;moth 18;");
         z.go(1);
         bench.due("17 is below 18", z.doll(0, 4), 1);
