@@ -691,7 +691,7 @@ public final class DollTruce {
         }
     }
 
-    /** What a text's bytes are cut read. */
+    /** What a text's bytes are cut into. */
     private static final class Tokens {
         final int[] kind = new int[MOST_BYTES + 1];
         final int[] place = new int[MOST_BYTES + 1];
