@@ -236,6 +236,27 @@ public final class DeedEdgesTest {
             bench.due("the first of " + deeds, x.doll(0, 4), deeds <= 20 ? 9 : 8);
             bench.due("the others of " + deeds, x.count(5), deeds <= 20 ? 36 : 35);
         }
+        bench.sentence("can be undone: a full row of every kind");
+        DollTruce mixed = behind(12);
+        mixed.tea(0);
+        DollTruce first = behind(12);
+        first.tea(0);
+        for (int i = 0; i < 5; i++) {
+            mixed.mend(i % 4);
+            mixed.give(1, i % 2 == 0 ? 2 : 1);
+            mixed.tea(i % 2);
+            mixed.mend(3 - i % 4);
+        }
+        bench.due("21 were done", mixed.count(11), 20);
+        for (int left = 19; left >= 0; left--) {
+            bench.due("undo of every kind down to " + left, mixed.undo(), left);
+        }
+        bench.due("the first one stays done", mixed.city(1, 0), first.city(1, 0));
+        // the twin forgets its deed by an image, so that neither has one
+        first.keep();
+        first.back();
+        mixed.keep();
+        bench.likeDue("undone", mixed, first);
         bench.sentence("can be undone: more behind an undo of a full row");
         DollTruce y = behind(12);
         for (int i = 0; i < 20; i++) {

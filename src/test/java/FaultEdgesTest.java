@@ -139,6 +139,32 @@ public final class FaultEdgesTest {
                 bench.faultDue("law calm " + ahead + token, 1, 9 + ahead.length());
             }
         }
+        bench.sentence("NAME: love worth hurt care anger fond week, no other word of the language");
+        String names = " love worth hurt care anger fond week ";
+        for (String word : LANGUAGE) {
+            if (names.contains(" " + word + " ")) {
+                bench.linesDue("law calm " + word + ";", 1);
+            } else if (!word.equals("not")) {
+                bench.faultDue("law calm " + word + ";", 1, 9);
+                bench.faultDue("law calm 1+" + word + ";", 1, 11);
+            }
+        }
+        bench.sentence("RULE: moths | angry | calm, no other word of the language");
+        for (String word : LANGUAGE) {
+            if (" moths angry calm ".contains(" " + word + " ")) {
+                bench.linesDue("law " + word + " 1;", 1);
+            } else {
+                bench.faultDue("law " + word + " 1;", 1, 4);
+            }
+        }
+        bench.sentence("SIDE: east | west, no other word of the language");
+        for (String word : LANGUAGE) {
+            if (word.equals("east") || word.equals("west")) {
+                bench.linesDue("nurse a " + word + " 1;", 1);
+            } else {
+                bench.faultDue("nurse a " + word + " 1;", 1, 8);
+            }
+        }
         bench.sentence("C: S [ ( < | .. ) S ]: one comparison, not two");
         for (String sign : new String[] {"<", "<=", "=", "<>", ">=", ">"}) {
             bench.linesDue("law calm 1" + sign + "2;", 1);
@@ -345,6 +371,14 @@ public final class FaultEdgesTest {
         bench.due("with a fault", Bench.tell(x, two + "law moths"), -1);
         bench.due("behind a fault", Bench.tell(x, two + "law calm " + twentyOne + ";"), 3);
         bench.due("count(2)", x.count(2), 63);
+        bench.sentence("a law of a TEXT with a FAULT is no part of the next one");
+        for (String cut : new String[] {"1+2*", "not (1 or 2", "((((((((1", "1 and 2<", "7;law calm", "7;law moths 8;!"}) {
+            DollTruce y = new DollTruce();
+            bench.due("law calm " + cut, Bench.tell(y, "law calm " + cut), -1);
+            bench.due("behind " + cut, Bench.tell(y, "law calm ((((((((9-3))))))))-2;"), 1);
+            bench.due("its value behind " + cut, y.law(2, 0), 4);
+            bench.due("its knots behind " + cut, y.count(2), 5);
+        }
     }
 
     private static void toldAlready() {

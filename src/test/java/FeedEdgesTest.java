@@ -155,7 +155,11 @@ public final class FeedEdgesTest {
     private static void textWithAFault() {
         bench.sentence("3: NONE with a FAULT, all stays");
         DollTruce x = Bench.busy();
-        bench.due("text", Bench.tell(x, "nurse k west 7;doll v k 1 1;seed 9;law moths 99;law angry"), -1);
+        // behind the twenty bytes that are on its tape
+        String rest = "doll v k 1 1;seed 9;law moths 99;law angry";
+        Bench.feed(x, rest);
+        bench.due("text", x.text(20 + rest.length()), -1);
+        bench.due("its place", x.fault(1), 20 + rest.length());
         DollTruce y = Bench.busy();
         // the fault and the tape are not among what stays: both are brought to the same
         Bench.tell(x, "!");
@@ -180,7 +184,10 @@ public final class FeedEdgesTest {
         bench.sentence("HURT 0 at first");
         bench.due("count(5)", toldAgain(text).count(5), 0);
         bench.sentence("FOND 0 at first");
-        bench.due("doll(0, 5)", toldAgain(text).doll(0, 5), 0);
+        DollTruce fond = Bench.with(text.replace("moth 70", "moth 0"), x -> x.go(5));
+        bench.due("FOND ahead of the text", fond.doll(0, 5), 5);
+        Bench.tell(fond, text);
+        bench.due("doll(0, 5)", fond.doll(0, 5), 0);
         bench.sentence("3: no NOTES");
         bench.due("count(9)", toldAgain(text).count(9), 0);
         bench.sentence("3: all KNOWN");
@@ -196,6 +203,11 @@ public final class FeedEdgesTest {
         bench.due("doll(0, 0)", toldAgain(text).doll(0, 0), 0);
         bench.sentence("numbers: at first the seed");
         bench.likeDue("told again", toldAgain(text), Bench.of(text));
+        bench.sentence("3: another TEXT, in which the sides are turned");
+        DollTruce turned = toldAgain(text);
+        String other = text.replace("east", "side").replace("west", "east").replace("side", "west");
+        Bench.tell(turned, other);
+        bench.likeDue("turned", turned, Bench.of(other));
         bench.sentence("3: the empty TEXT in place of another");
         DollTruce empty = toldAgain(text);
         empty.text(0);
@@ -232,6 +244,12 @@ public final class FeedEdgesTest {
         bench.due("count(0)", x.count(0), 6);
         bench.due("count(1)", x.count(1), 10);
         bench.due("count(2)", x.count(2), 41 + 21 + 1);
+        bench.sentence("3: a full TEXT of 700 TOKENS, of one");
+        bench.faultDue(";".repeat(700), 1, 0);
+        bench.faultDue("law calm " + "(".repeat(691), 2, 17);
+        bench.faultDue("a".repeat(700), 1, 0);
+        bench.faultDue("moth " + "9".repeat(695), 2, 5);
+        bench.faultDue("nurse " + "a".repeat(694), 1, 6);
         bench.sentence("3: a full TEXT that lacks its last sign");
         String lacks = " ".repeat(694) + "moth 7";
         DollTruce y = new DollTruce();

@@ -94,6 +94,9 @@ public final class LawEdgesTest {
         valueDue(twoToThe32 + "*(0-" + twoToThe32 + ")", ERROR);
         valueDue("(0-" + twoToThe32 + ")*(0-" + twoToThe32 + ")", ERROR);
         valueDue(twoToThe32 + "*(" + twoToThe32 + "/2)", ERROR);
+        valueDue("(256*(8192*8192))*(16*(8192*8192))", ERROR);
+        valueDue("(16*(8192*8192))*(256*(8192*8192))", ERROR);
+        valueDue("(0-256*(8192*8192))*(16*(8192*8192))", ERROR);
         valueDue(FAR + "*" + FAR, ERROR);
         valueDue("(0-" + FAR + ")*" + FAR, ERROR);
         valueDue("(0-" + FAR + ")*(0-" + FAR + ")", ERROR);

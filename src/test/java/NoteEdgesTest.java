@@ -131,6 +131,14 @@ public final class NoteEdgesTest {
         bench.due("the other counts", twice.cares(1), ALL);
         twice.out(2);
         bench.due("none of both counts", twice.cares(1), 0);
+        bench.sentence("NOTES of a TEXT ahead are gone, also from what strikes");
+        DollTruce told = Bench.of(TEXT);
+        told.note(1, 0, 0, true);
+        told.note(1, 0, 9, true);
+        Bench.tell(told, TEXT);
+        told.note(1, 0, 9, true);
+        told.out(0);
+        bench.due("by none", told.cares(1), ALL);
         bench.sentence("a note that is not STRUCK stays");
         DollTruce other = Bench.of(TEXT);
         other.note(1, 0, 9, true);

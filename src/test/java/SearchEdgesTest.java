@@ -1,3 +1,6 @@
+import java.util.List;
+import java.util.function.Consumer;
+
 /** The edges of promises 19 to 25: best, enough, nursing, rests, rest, whole, lists. */
 public final class SearchEdgesTest {
     private static final int[] FAR = {Integer.MIN_VALUE, Integer.MAX_VALUE};
@@ -15,6 +18,8 @@ public final class SearchEdgesTest {
         nursingForSoManyWeeks();
         nursingOfSoManyDolls();
         nursingOfSeveral();
+        nursingWithMostAnger();
+        nursingAskedTwice();
         restsOfNoneAndAll();
         restBeyondTheLast();
         wholeOfNoSuchOnes();
@@ -197,6 +202,15 @@ public final class SearchEdgesTest {
         bench.due("ANGER", x.nursing(0, 1, 4), 0);
         bench.due("new", new DollTruce().nursing(1, 20, 0), -2);
         bench.due("new, ANGER", new DollTruce().nursing(1, 20, 4), 0);
+        bench.sentence("21: one CITY behind the other");
+        DollTruce turns = Bench.of("nurse a east 0;nurse b west 0;nurse c west 1;doll p a 1 1;doll q b 1 1;doll r b 1 1;"
+            + "breach 99;law moths 100*(care=0);");
+        int[][] want = {{0, -2, -2, -2, 3}, {2, 2, -2, -2, 1}};
+        for (int i = 0; i < 4; i++) {
+            for (int what = 0; what <= 4; what++) {
+                bench.due("nursing(" + i % 2 + ", 1, " + what + ")", turns.nursing(i % 2, 1, what), want[i % 2][what]);
+            }
+        }
         bench.sentence("21: the most that is tried: six nurses, four dolls");
         DollTruce full = Bench.of(Bench.fullText("moth 100;breach 99;").replace("west", "east"));
         for (int what = 0; what <= 3; what++) {
@@ -226,6 +240,45 @@ public final class SearchEdgesTest {
         DollTruce x = Bench.with(both, y -> y.go(1));
         bench.due("10 is answered: 0 and 1", x.nursing(1, 1, 4), 1);
         bench.due("by the one to whom moths come", x.nursing(1, 1, 0), 0);
+    }
+
+    private static void nursingWithMostAnger() {
+        bench.sentence("21: ANGER in sum, as much as can be");
+        // east stays at 98, one less than a breach; west, which holds none, goes on to 999
+        DollTruce x = Bench.of("nurse a east 0;nurse b west 0;nurse c east 1;doll p a 1 1;doll q b 4 1;doll r a 5 1;breach 99;law calm 0;"
+            + "law moths 100*(love=4 and week=0 or love=5 and week>0);law angry 98*(love=4)+99*(love=5);");
+        x.go(1);
+        x.exchange(0, 1);
+        x.go(20);
+        bench.due("ANGER of east", x.city(0, 0), 98);
+        bench.due("ANGER of west", x.city(1, 0), 999);
+        bench.due("in sum", x.nursing(0, 20, 4), 1097);
+        bench.due("of likes the first", x.nursing(0, 20, 0), 0);
+        bench.due("count(6)", x.count(6), 1097);
+    }
+
+    /** What was asked ahead of a change must not be answered behind it. */
+    private static void nursingAskedTwice() {
+        bench.sentence("21: asked ahead of a call that changes what is so, and behind it");
+        List<Consumer<DollTruce>> changes = List.of(x -> x.mend(1), x -> x.exchange(1, 3), x -> x.give(1, 1), x -> x.tea(0),
+            x -> x.tea(1), x -> x.undo(), x -> x.go(1), x -> x.back(), x -> x.text(15),
+            x -> {
+                x.text(0);
+                Bench.tell(x, "nurse a east 0;nurse b west 0;doll p a 8 1;doll q b 7 1;moth 100;");
+            });
+        for (int change = 0; change < changes.size(); change++) {
+            for (int city = 0; city <= 1; city++) {
+                DollTruce asked = Bench.busy();
+                asked.nursing(city, 3, 4);
+                DollTruce unasked = Bench.busy();
+                changes.get(change).accept(asked);
+                changes.get(change).accept(unasked);
+                for (int what = 0; what <= 4; what++) {
+                    bench.due("behind change " + change + ": nursing(" + city + ", 3, " + what + ")",
+                        asked.nursing(city, 3, what), unasked.nursing(city, 3, what));
+                }
+            }
+        }
     }
 
     private static void restsOfNoneAndAll() {
