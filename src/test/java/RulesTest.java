@@ -17,7 +17,7 @@ public final class RulesTest {
         "IndexOutOfBoundsException", "ArithmeticException", "UnsupportedOperationException", "NoSuchElementException",
         "RuntimeException");
     private static final List<String> FORBIDDEN = List.of("package", "synchronized", "assert", "finally", "native", "volatile",
-        "transient", "strictfp", "protected", "hashCode", "toString", "getMessage");
+        "transient", "strictfp", "protected", "hashCode", "String toString", "getMessage");
     private static final Bench bench = new Bench("RulesTest");
 
     public static void main(String[] args) throws IOException {
@@ -64,6 +64,9 @@ public final class RulesTest {
         }
         for (String call : found(code, "\\b(?:Math|Integer|Long)\\.(\\w+)")) {
             bench.due(call, call.endsWith("Exact"), false);
+        }
+        for (String call : found(code, "\\b(?:System|Arrays)\\.(\\w+)")) {
+            bench.due(call, Set.of("arraycopy", "copyOf", "copyOfRange", "fill").contains(call), true);
         }
         for (String brought : found(code, "\\bimport\\s+([\\w.*]+);")) {
             String type = brought.substring(brought.lastIndexOf('.') + 1);
